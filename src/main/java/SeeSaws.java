@@ -391,7 +391,7 @@ public final class SeeSaws {
         }
         sumHeavies();
         int all = (1 << plank.claims) - 1;
-        int differ = Integer.MAX_VALUE;
+        int differ = HEAVIEST * CLAIMS + 1;
         int share = NONE;
         int ways = 0;
         for (int bits = 1; bits <= all; bits += 2) {
@@ -817,19 +817,22 @@ public final class SeeSaws {
     // ---- sums over sets of claims, as bits ----
 
     private void sumHeavies() {
-        for (int bits = 1; bits < SUBSETS; bits++) {
-            int claim = Integer.numberOfTrailingZeros(bits);
-            sums[bits] = sums[bits & (bits - 1)] + (plank.hasClaim(claim) ? plank.heavy[claim] : 0);
+        for (int claim = 0; claim < CLAIMS; claim++) {
+            sumWith(claim, plank.hasClaim(claim) ? plank.heavy[claim] : 0);
         }
     }
 
     private void sumTilts() {
         for (int claim = 0; claim < CLAIMS; claim++) {
-            int weight = plank.isOn(claim) ? weightAt(claim, plank.place[claim]) : 0;
-            int bit = 1 << claim;
-            for (int lower = 0; lower < bit; lower++) {
-                sums[bit + lower] = sums[lower] + weight;
-            }
+            sumWith(claim, plank.isOn(claim) ? weightAt(claim, plank.place[claim]) : 0);
+        }
+    }
+
+    /** The sums of all sets whose highest claim is this one; those without it stand already. */
+    private void sumWith(int claim, int weight) {
+        int bit = 1 << claim;
+        for (int lower = 0; lower < bit; lower++) {
+            sums[bit + lower] = sums[lower] + weight;
         }
     }
 
@@ -904,7 +907,7 @@ public final class SeeSaws {
         }
         int all = Integer.bitCount(can);
         int sets = 1 << plank.claims;
-        int best = Integer.MAX_VALUE;
+        int best = SUBSETS * SUBSETS * SUBSETS;
         for (int left = 0; left < sets; left++) {
             for (int right = 0; right < sets; right++) {
                 if ((left & right) == 0) {

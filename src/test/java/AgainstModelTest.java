@@ -2,6 +2,8 @@ import java.util.Random;
 
 /** Long runs of drawn calls, each answered by the class and by the model; the answers must be the same. */
 public final class AgainstModelTest {
+    private static final int NONE = SeeSaws.NONE;
+
     private final Random random;
     private SeeSaws x = new SeeSaws();
     private Model m = new Model();
@@ -158,13 +160,13 @@ public final class AgainstModelTest {
     }
 
     private void changes() {
-        int c = below(most + 1) - below(2) * below(2);
+        int c = below(10) == 0 ? below(9) - 1 : below(Math.max(1, x.count(0)));
         switch (below(16)) {
             case 0:
             case 1: {
                 int heavy = below(10) == 0 ? below(33) : 1 + below(9);
                 int kind = below(5) - below(2) * below(2);
-                if (x.count(0) < most || below(30) == 0 && most >= 6) {
+                if (x.count(0) < most || most == 7) {
                     same("claim(" + heavy + ", " + kind + ")", x.claim(heavy, kind), m.claim(heavy, kind));
                 }
                 break;
@@ -203,8 +205,9 @@ public final class AgainstModelTest {
                 same("undo()", x.undo(), m.undo());
                 break;
             case 12: {
-                int left = below(1 << most);
-                int right = below(1 << most) & ~(below(8) == 0 ? 0 : left);
+                int bits = 1 << (below(8) == 0 ? 8 : x.count(0));
+                int left = below(bits);
+                int right = below(bits) & ~(below(8) == 0 ? 0 : left);
                 int came = below(20) == 0 ? below(6) - 2 : below(3);
                 same("weighed(" + left + ", " + right + ", " + came + ")",
                         x.weighed(left, right, came), m.weighed(left, right, came));
@@ -229,7 +232,7 @@ public final class AgainstModelTest {
                 }
                 break;
             default:
-                if (below(6) == 0 && (most >= 6 || x.count(0) == 0)) {
+                if (below(6) == 0 && (most == 7 || x.count(0) == 0)) {
                     StringBuilder row = new StringBuilder();
                     for (int n = below(3) * 2 + below(2) * below(2); n > 0; n--) {
                         row.append((char) (row.length() % 2 == 0 ? below(34) : below(5)));
@@ -244,9 +247,9 @@ public final class AgainstModelTest {
     }
 
     private void asks() {
-        int c = below(most + 2) - 1;
-        int what = below(6) - 1;
-        int place = below(9) - 1;
+        int c = below(4) == 0 ? NONE : below(most + 1);
+        int what = below(8) == 0 ? below(7) - 1 : below(3);
+        int place = below(12) == 0 ? below(9) - 1 : below(7);
         switch (below(20)) {
             case 0:
                 same("of(" + c + ", " + what + ")", x.of(c, what), m.of(c, what));
@@ -296,9 +299,11 @@ public final class AgainstModelTest {
                 same("few(" + k + ", " + n + ")", x.few(k, n), m.few(k, n));
                 break;
             }
-            case 17:
-                same("compare(" + (below(8) - 1) + ")", x.compare(c), m.compare(c));
+            case 17: {
+                int law = below(8) - 2;
+                same("compare(" + law + ")", x.compare(law), m.compare(law));
                 break;
+            }
             case 18:
                 same("drawn(" + c + ", " + what + ")", x.drawn(c, what), m.drawn(c, what));
                 break;
@@ -322,6 +327,11 @@ public final class AgainstModelTest {
     }
 
     private void play() {
+        for (int c = below(most + 1); c > 0; c--) {
+            int heavy = 1 + below(below(3) == 0 ? 30 : 9);
+            int kind = below(4);
+            same("claim(" + heavy + ", " + kind + ")", x.claim(heavy, kind), m.claim(heavy, kind));
+        }
         for (int i = 0; i < 90 && Due.wrong() == 0; i++) {
             int way = below(10);
             if (way == 0) {
