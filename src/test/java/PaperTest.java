@@ -108,6 +108,8 @@ public final class PaperTest {
         due("23: bare", new SeeSaws().moved(NONE), 0);
         x = placed(1, 0, 1, 0, 1, 0, 1, 0, 1, 0, 1, 0, 1, 0);
         due("23: seven on the left", x.moved(NONE), 4);
+        Due.forced(x, "bars if not place = 3");
+        due("23: all seven to the middle", x.moved(NONE) * 10 + x.moved(6), 73);
     }
 
     private static void promise24Alone() {
@@ -179,6 +181,10 @@ public final class PaperTest {
         due("27: two of six", x.off(NONE), 2);
         due("27: row", x.off(0) * 100 + x.off(1) * 10 + x.off(2), 203);
         due("27: three alone", x.off(3), NONE);
+        x = placed(1, 4, 2, 4, 2, 2);
+        x.terms(3, 1);
+        due("27: claim 0 can come off first, but then no other", x.off(NONE), 1);
+        due("27: the one order", x.off(0) * 100 + x.off(1) * 10 + x.off(2), 120);
         x = placed(9, 0);
         due("27: it need not be level ahead", x.off(NONE) * 10 + x.off(0), 10);
         x = placed(1, 3, 1, 3, 1, 3, 1, 3, 1, 3, 1, 3, 1, 3);

@@ -171,6 +171,8 @@ public final class TextsTest {
         badLaw("counts  ", 8);
         badLaw("Counts 1", 0);
         badLaw("countsx 1", 0);
+        badLaw("barsz", 0);
+        badLaw("bars{", 4);
         badLaw(" put 1 at 2", 1);
         badLaw("counts 1 1", 9);
         badLaw("counts 1;", 9);
