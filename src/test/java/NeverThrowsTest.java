@@ -52,7 +52,6 @@ public final class NeverThrowsTest {
         for (int i = 0; i < 512; i++) {
             if (random.nextInt(12) == 0) {
                 Due.tape(x, TEXTS[random.nextInt(TEXTS.length)]);
-                call(x, face.get(0), 0, 0, 0, 0, 0);
                 if (random.nextBoolean()) {
                     x.orders();
                 } else {
