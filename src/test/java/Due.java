@@ -1,4 +1,8 @@
-/** What the tests of this project share: answers that are due, texts put on the tape, numbers drawn. */
+import java.lang.reflect.Method;
+import java.lang.reflect.Modifier;
+import java.util.Arrays;
+
+/** What the tests of this project share: answers that are due, planks to begin with, texts put on the tape. */
 final class Due {
     private static int wrong = 0;
     private static int asked = 0;
@@ -26,6 +30,68 @@ final class Due {
         if (wrong != 0) {
             System.exit(1);
         }
+    }
+
+    /** Runs all of a test's methods that are static and take nothing, so that none is left out; then ends. */
+    static void runAll(Class<?> test) throws ReflectiveOperationException {
+        Method[] methods = test.getDeclaredMethods();
+        Arrays.sort(methods, (a, b) -> a.getName().compareTo(b.getName()));
+        int run = 0;
+        for (Method method : methods) {
+            if (Modifier.isStatic(method.getModifiers()) && method.getParameterCount() == 0
+                    && method.getReturnType() == void.class) {
+                int before = wrong;
+                method.setAccessible(true);
+                method.invoke(null);
+                run++;
+                if (wrong > before) {
+                    System.out.println("  .. in " + test.getSimpleName() + "." + method.getName());
+                }
+            }
+        }
+        System.out.print(run + " tests, ");
+        end();
+    }
+
+    /** A plank with claims that are so heavy, of kind 0, all OFF. */
+    static SeeSaws plank(int... heavies) {
+        SeeSaws x = new SeeSaws();
+        for (int heavy : heavies) {
+            x.claim(heavy, 0);
+        }
+        return x;
+    }
+
+    /** Claims by twos: how heavy, at which place (7: OFF). */
+    static SeeSaws placed(int... twos) {
+        SeeSaws x = new SeeSaws();
+        for (int i = 0; i < twos.length; i += 2) {
+            x.claim(twos[i], 0);
+        }
+        for (int i = 0; i < twos.length; i += 2) {
+            if (twos[i + 1] < 7) {
+                x.put(i / 2, twos[i + 1]);
+            }
+        }
+        return x;
+    }
+
+    /** Seven claims, each so heavy, all at one place (7: OFF). */
+    static SeeSaws seven(int heavy, int place) {
+        int[] twos = new int[14];
+        for (int i = 0; i < 14; i += 2) {
+            twos[i] = heavy;
+            twos[i + 1] = place;
+        }
+        return placed(twos);
+    }
+
+    static String repeated(String what, int times, String between) {
+        StringBuilder s = new StringBuilder();
+        for (int i = 0; i < times; i++) {
+            s.append(i == 0 ? "" : between).append(what);
+        }
+        return s.toString();
     }
 
     static void tape(SeeSaws x, String text) {

@@ -6,30 +6,8 @@ public final class PaperTest {
         Due.due(call, got, want);
     }
 
-    private static SeeSaws plank(int... heavies) {
-        SeeSaws x = new SeeSaws();
-        for (int heavy : heavies) {
-            x.claim(heavy, 0);
-        }
-        return x;
-    }
-
-    /** Claims by twos: how heavy, at which place (7: OFF). */
-    private static SeeSaws placed(int... twos) {
-        SeeSaws x = new SeeSaws();
-        for (int i = 0; i < twos.length; i += 2) {
-            x.claim(twos[i], 0);
-        }
-        for (int i = 0; i < twos.length; i += 2) {
-            if (twos[i + 1] < 7) {
-                x.put(i / 2, twos[i + 1]);
-            }
-        }
-        return x;
-    }
-
     private static void promise21Settle() {
-        SeeSaws x = plank(1);
+        SeeSaws x = Due.plank(1);
         due("21: in the middle alone", x.settle(NONE), 1);
         due("21: there", x.settle(0), 3);
         due("21: claim 1", x.settle(1), NONE);
@@ -47,15 +25,15 @@ public final class PaperTest {
         x.put(0, 3);
         Due.forced(x, "bars");
         due("21: one that is ON stays, barred or not", x.settle(NONE) * 10 + x.settle(0), 13);
-        x = plank(2, 2);
+        x = Due.plank(2, 2);
         due("21: seven twos", x.settle(NONE), 7);
         due("21: the first row", x.settle(0) * 10 + x.settle(1), 6);
-        x = placed(4, 0, 5, 7, 3, 7);
+        x = Due.placed(4, 0, 5, 7, 3, 7);
         due("21: 12 by 5 and 3", x.settle(NONE), 1);
         due("21: where they are", x.settle(0) * 100 + x.settle(1) * 10 + x.settle(2), 62);
-        x = placed(5, 0);
+        x = Due.placed(5, 0);
         due("21: all ON, not level", x.settle(NONE), NONE);
-        x = plank(1, 1, 1, 1, 1, 1, 1);
+        x = Due.plank(1, 1, 1, 1, 1, 1, 1);
         due("21: seven claims", x.settle(NONE), 60691);
         due("21: their first row", x.settle(0) + x.settle(1) + x.settle(2), 0);
         due("21: the fourth in the middle", x.settle(3), 3);
@@ -67,7 +45,7 @@ public final class PaperTest {
     }
 
     private static void promise22Least() {
-        SeeSaws x = placed(5, 0, 2, 7);
+        SeeSaws x = Due.placed(5, 0, 2, 7);
         due("22: 15 less 6", x.least(NONE), 9);
         due("22: it stays", x.least(0), 0);
         due("22: far out", x.least(1), 6);
@@ -78,18 +56,18 @@ public final class PaperTest {
         Due.forced(x, "bars");
         due("22: no row", x.least(NONE), NONE);
         due("22: no row", x.least(1), NONE);
-        x = placed(1, 4, 2, 7);
+        x = Due.placed(1, 4, 2, 7);
         due("22: either way alike", x.least(NONE), 1);
         due("22: the first of them", x.least(1), 2);
         x.terms(3, 9);
         due("22: level or not", x.least(NONE) * 10 + x.least(1), 12);
-        x = placed(5, 0);
+        x = Due.placed(5, 0);
         due("22: all ON", x.least(NONE) * 10 + x.least(0), 150);
         due("22: bare", new SeeSaws().least(NONE), 0);
     }
 
     private static void promise23Moved() {
-        SeeSaws x = placed(2, 0, 2, 1, 2, 2, 9, 7);
+        SeeSaws x = Due.placed(2, 0, 2, 1, 2, 2, 9, 7);
         due("23: one", x.moved(NONE), 1);
         due("23: row", x.moved(0) * 1000 + x.moved(1) * 100 + x.moved(2) * 10 + x.moved(3), 6127);
         due("23: claim 4", x.moved(4), NONE);
@@ -101,25 +79,25 @@ public final class PaperTest {
         Due.forced(x, "bars");
         due("23: it can't be", x.moved(NONE), NONE);
         due("23: it can't be", x.moved(0), NONE);
-        x = placed(2, 0, 2, 6, 3, 7);
+        x = Due.placed(2, 0, 2, 6, 3, 7);
         Due.forced(x, "bars");
         due("23: level now, barred or not", x.moved(NONE), 0);
         due("23: as it is", x.moved(0) * 100 + x.moved(1) * 10 + x.moved(2), 67);
         due("23: bare", new SeeSaws().moved(NONE), 0);
-        x = placed(1, 0, 1, 0, 1, 0, 1, 0, 1, 0, 1, 0, 1, 0);
+        x = Due.placed(1, 0, 1, 0, 1, 0, 1, 0, 1, 0, 1, 0, 1, 0);
         due("23: seven on the left", x.moved(NONE), 4);
         Due.forced(x, "bars if not place = 3");
         due("23: all seven to the middle", x.moved(NONE) * 10 + x.moved(6), 73);
     }
 
     private static void promise24Alone() {
-        SeeSaws x = placed(3, 0, 6, 7, 1, 7, 3, 7);
+        SeeSaws x = Due.placed(3, 0, 6, 7, 1, 7, 3, 7);
         due("24: the one as heavy", x.alone(), 8);
         x.terms(3, 3);
         due("24: within slack", x.alone(), 10);
         Due.forced(x, "bars if place > 4");
         due("24: not where barred", x.alone(), 2);
-        x = plank(4, 5);
+        x = Due.plank(4, 5);
         due("24: level already", x.alone(), 3);
         Due.forced(x, "bars if place = 3 and claim = 1");
         due("24: not in the middle", x.alone(), 1);
@@ -127,7 +105,7 @@ public final class PaperTest {
     }
 
     private static void promise25Exchanged() {
-        SeeSaws x = placed(5, 0, 2, 5);
+        SeeSaws x = Due.placed(5, 0, 2, 5);
         due("25: the twos", x.exchanged(0), 1);
         due("25: tilt then", x.exchanged(1), 4);
         due("25: what 2", x.exchanged(2), NONE);
@@ -139,25 +117,25 @@ public final class PaperTest {
         due("25: barred there", x.exchanged(1), NONE);
         Due.forced(x, "bars if claim = 0 and place = 0");
         due("25: barred where it is, no matter", x.exchanged(0), 1);
-        x = placed(2, 0, 2, 6, 5, 3);
+        x = Due.placed(2, 0, 2, 6, 5, 3);
         due("25: none is less", x.exchanged(0), NONE);
-        x = placed(1, 7, 5, 0, 2, 4, 2, 4);
+        x = Due.placed(1, 7, 5, 0, 2, 4, 2, 4);
         due("25: the lowest of twos alike", x.exchanged(0), 12);
-        x = placed(5, 0, 2, 7);
+        x = Due.placed(5, 0, 2, 7);
         due("25: OFF", x.exchanged(0), NONE);
     }
 
     private static void promise26Shares() {
         due("26: no claims", new SeeSaws().shares(0), NONE);
-        SeeSaws x = plank(4);
+        SeeSaws x = Due.plank(4);
         due("26: one claim", x.shares(0) * 100 + x.shares(1) * 10 + x.shares(2), 411);
-        x = plank(1, 1, 1, 1);
+        x = Due.plank(1, 1, 1, 1);
         due("26: alike", x.shares(0), 0);
         due("26: the lowest", x.shares(1), 3);
         due("26: ways", x.shares(2), 3);
         due("26: what 3", x.shares(3), NONE);
         due("26: what -1", x.shares(-1), NONE);
-        x = plank(2, 30, 27);
+        x = Due.plank(2, 30, 27);
         due("26: by how much", x.shares(0), 1);
         due("26: share", x.shares(1), 5);
         x.put(1, 4);
@@ -168,7 +146,7 @@ public final class PaperTest {
     private static void promise27Off() {
         due("27: none is ON", new SeeSaws().off(NONE), 1);
         due("27: none is ON", new SeeSaws().off(0), NONE);
-        SeeSaws x = placed(1, 2, 1, 4);
+        SeeSaws x = Due.placed(1, 2, 1, 4);
         due("27: none", x.off(NONE), 0);
         due("27: none", x.off(0), NONE);
         x.terms(3, 1);
@@ -176,18 +154,18 @@ public final class PaperTest {
         due("27: first", x.off(0) * 10 + x.off(1), 1);
         due("27: behind the last", x.off(2), NONE);
         due("27: -2", x.off(-2), NONE);
-        x = placed(2, 2, 9, 7, 1, 4, 1, 4);
+        x = Due.placed(2, 2, 9, 7, 1, 4, 1, 4);
         x.terms(3, 1);
         due("27: two of six", x.off(NONE), 2);
         due("27: row", x.off(0) * 100 + x.off(1) * 10 + x.off(2), 203);
         due("27: three alone", x.off(3), NONE);
-        x = placed(1, 4, 2, 4, 2, 2);
+        x = Due.placed(1, 4, 2, 4, 2, 2);
         x.terms(3, 1);
         due("27: claim 0 can come off first, but then no other", x.off(NONE), 1);
         due("27: the one order", x.off(0) * 100 + x.off(1) * 10 + x.off(2), 120);
-        x = placed(9, 0);
+        x = Due.placed(9, 0);
         due("27: it need not be level ahead", x.off(NONE) * 10 + x.off(0), 10);
-        x = placed(1, 3, 1, 3, 1, 3, 1, 3, 1, 3, 1, 3, 1, 3);
+        x = Due.placed(1, 3, 1, 3, 1, 3, 1, 3, 1, 3, 1, 3, 1, 3);
         due("27: all orders of seven", x.off(NONE), 5040);
         due("27: the last of the first", x.off(6), 6);
         due("27: all stay", x.count(1), 7);
@@ -196,21 +174,21 @@ public final class PaperTest {
     private static void promise28ByTurns() {
         due("28: none is ON", new SeeSaws().byTurns(0), 0);
         due("28: none is ON", new SeeSaws().byTurns(1), NONE);
-        SeeSaws x = placed(2, 2, 1, 4, 1, 4);
+        SeeSaws x = Due.placed(2, 2, 1, 4, 1, 4);
         x.terms(3, 1);
         due("28: wins", x.byTurns(0), 1);
         due("28: by", x.byTurns(1), 1);
         due("28: what 2", x.byTurns(2), NONE);
         due("28: what -1", x.byTurns(-1), NONE);
-        x = placed(1, 3, 1, 3);
+        x = Due.placed(1, 3, 1, 3);
         due("28: two in the middle", x.byTurns(0), 0);
         due("28: two in the middle", x.byTurns(1), NONE);
-        x = placed(1, 7, 1, 3);
+        x = Due.placed(1, 7, 1, 3);
         due("28: one", x.byTurns(0) * 10 + x.byTurns(1), 11);
     }
 
     private static void promise29And30Weighed() {
-        SeeSaws x = plank(3, 3, 3);
+        SeeSaws x = Due.plank(3, 3, 3);
         due("29: -1", x.weighed(-1, 0, 0), -1);
         due("29: 128", x.weighed(0, 128, 0), -1);
         due("29: on both sides", x.weighed(3, 6, 0), -1);
@@ -232,7 +210,7 @@ public final class PaperTest {
     }
 
     private static void promise31CanBe() {
-        SeeSaws x = plank(3, 3);
+        SeeSaws x = Due.plank(3, 3);
         due("31: all", x.canBe(), 16384 + 15);
         x.weighed(1, 2, 1);
         due("31: 0 more or 1 less", x.canBe(), 9);
@@ -241,12 +219,12 @@ public final class PaperTest {
         x.weighed(1, 2, 0);
         due("31: it can't be", x.canBe(), 0);
         due("32: it can't be", x.weigh(0) + x.weigh(1) + x.weigh(2), -3);
-        x = plank(3, 2);
+        x = Due.plank(3, 2);
         x.weighed(1, 2, 1);
         due("31: or none", x.canBe(), 16384 + 9);
         x.pad(1, 3);
         due("31: HEAVY as now", x.canBe(), 9);
-        x = plank(1, 1, 1, 1, 1, 1, 1);
+        x = Due.plank(1, 1, 1, 1, 1, 1, 1);
         due("31: seven", x.canBe(), 32767);
         Due.forced(x, "counts 50");
         x.weighed(64, 0, 0);
@@ -254,7 +232,7 @@ public final class PaperTest {
     }
 
     private static void promise32Weigh() {
-        SeeSaws x = plank(3, 3, 3);
+        SeeSaws x = Due.plank(3, 3, 3);
         due("32: left", x.weigh(0), 1);
         due("32: right", x.weigh(1), 2);
         due("32: at most", x.weigh(2), 3);
@@ -286,7 +264,7 @@ public final class PaperTest {
     }
 
     private static void promise34Compare() {
-        SeeSaws x = placed(5, 0, 4, 4);
+        SeeSaws x = Due.placed(5, 0, 4, 4);
         Due.law(x, "counts 1");
         Due.law(x, "counts heavy * 2");
         due("34: none", x.compare(NONE), 11);
@@ -300,7 +278,7 @@ public final class PaperTest {
     }
 
     private static void promise35And36Days() {
-        SeeSaws x = plank(3, 2, 6);
+        SeeSaws x = Due.plank(3, 2, 6);
         due("35: seed -1", x.days(-1, 1), -1);
         due("35: seed 1,000,001", x.days(1000001, 1), -1);
         due("35: n 0", x.days(0, 0), -1);

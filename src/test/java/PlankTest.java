@@ -2,14 +2,6 @@
 public final class PlankTest {
     private static final int NONE = SeeSaws.NONE;
 
-    private static SeeSaws plank(int... heavies) {
-        SeeSaws x = new SeeSaws();
-        for (int heavy : heavies) {
-            x.claim(heavy, 0);
-        }
-        return x;
-    }
-
     private static void due(String call, long got, long want) {
         Due.due(call, got, want);
     }
@@ -72,7 +64,7 @@ public final class PlankTest {
     }
 
     private static void promise4Asks() {
-        SeeSaws x = plank(5, 4);
+        SeeSaws x = Due.plank(5, 4);
         Due.forced(x, "counts heavy * 2 if arm > 0; bars if place = 6");
         x.put(0, 1);
         due("4: counts left", x.asks(1, 0, 0), 4);
@@ -92,7 +84,7 @@ public final class PlankTest {
     }
 
     private static void promise5Tilt() {
-        SeeSaws x = plank(3, 3);
+        SeeSaws x = Due.plank(3, 3);
         due("5: bare", x.tilt(1), 0);
         x.put(0, 0);
         due("5: left by 9", x.tilt(0), 9);
@@ -114,7 +106,7 @@ public final class PlankTest {
     }
 
     private static void promise6Terms() {
-        SeeSaws x = plank(3);
+        SeeSaws x = Due.plank(3);
         int[] first = {0, 1, 0, 0};
         int[] most = {999, 10, 9, 9};
         for (int what = 0; what < 4; what++) {
@@ -130,7 +122,7 @@ public final class PlankTest {
     }
 
     private static void promise15Force() {
-        SeeSaws x = plank(5);
+        SeeSaws x = Due.plank(5);
         due("15: NONE", x.force(NONE), NONE);
         due("15: status behind NONE", x.status(), 0);
         due("15: no law", x.force(0), -2);
@@ -152,7 +144,7 @@ public final class PlankTest {
     }
 
     private static void promise16Put() {
-        SeeSaws x = plank(5, 2);
+        SeeSaws x = Due.plank(5, 2);
         due("16: put", x.put(0, 0), 15);
         due("16: it is there", x.put(0, 0), -3);
         due("16: elsewhere", x.put(0, 2), 5);
@@ -170,7 +162,7 @@ public final class PlankTest {
     }
 
     private static void promise17Take() {
-        SeeSaws x = plank(5, 2);
+        SeeSaws x = Due.plank(5, 2);
         due("17: OFF", x.take(0), -3);
         due("17: claim 2", x.take(2), -2);
         due("17: claim -1", x.take(-1), -2);
@@ -184,7 +176,7 @@ public final class PlankTest {
     }
 
     private static void promise18Pad() {
-        SeeSaws x = plank(5);
+        SeeSaws x = Due.plank(5);
         due("18: pad", x.pad(0, 30), 5);
         due("18: it is so", x.pad(0, 30), -3);
         due("18: to 1", x.pad(0, 1), 30);
@@ -196,7 +188,7 @@ public final class PlankTest {
     }
 
     private static void promise19Pass() {
-        SeeSaws x = plank(5, 2, 1, 9);
+        SeeSaws x = Due.plank(5, 2, 1, 9);
         x.put(0, 0);
         x.put(1, 1);
         x.put(2, 2);
@@ -221,7 +213,7 @@ public final class PlankTest {
     }
 
     private static void promise20Undo() {
-        SeeSaws x = plank(5, 4);
+        SeeSaws x = Due.plank(5, 4);
         Due.forced(x, "sheds 2");
         x.put(0, 0);
         x.put(0, 6);
@@ -275,7 +267,7 @@ public final class PlankTest {
     }
 
     private static void undoBehindOrdersThatStop() {
-        SeeSaws x = plank(5);
+        SeeSaws x = Due.plank(5);
         for (int i = 0; i < 16; i++) {
             x.put(0, i % 7);
         }

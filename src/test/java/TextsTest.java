@@ -6,14 +6,6 @@ public final class TextsTest {
         Due.due(call, got, want);
     }
 
-    private static SeeSaws plank(int... heavies) {
-        SeeSaws x = new SeeSaws();
-        for (int heavy : heavies) {
-            x.claim(heavy, 0);
-        }
-        return x;
-    }
-
     private static void badLaw(String text, int fault) {
         SeeSaws x = new SeeSaws();
         due("law " + text, Due.law(x, text), -6);
@@ -28,7 +20,7 @@ public final class TextsTest {
     }
 
     private static void badOrders(String text, int fault) {
-        SeeSaws x = plank(3);
+        SeeSaws x = Due.plank(3);
         due("orders " + text, Due.orders(x, text), -6);
         due("their fault: " + text, x.fault(), fault);
         due("none stopped: " + text, x.stopped(), NONE);
@@ -98,7 +90,7 @@ public final class TextsTest {
     }
 
     private static void promise11Law() {
-        SeeSaws x = plank(5);
+        SeeSaws x = Due.plank(5);
         due("11: empty", x.law(), -6);
         due("13: empty", x.fault(), 0);
         due("11: first", Due.law(x, "counts 2"), 0);
@@ -157,14 +149,6 @@ public final class TextsTest {
         counts("counts 1 if [[1+1]] = 0002", 1);
     }
 
-    private static String repeated(String what, int times, String between) {
-        StringBuilder s = new StringBuilder();
-        for (int i = 0; i < times; i++) {
-            s.append(i == 0 ? "" : between).append(what);
-        }
-        return s.toString();
-    }
-
     private static void promise13FaultOfLaws() {
         badLaw("   ", 3);
         badLaw("counts", 6);
@@ -207,34 +191,34 @@ public final class TextsTest {
     }
 
     private static void limits() {
-        goodLaw(repeated("bars", 12, ";"));
-        badLaw(repeated("bars", 13, ";"), 60);
-        badLaw(repeated("bars", 12, ";") + "; nonsense", 61);
-        badLaw(repeated("bars", 12, ";") + "; ", 61);
-        badLaw(repeated("bars", 12, ";") + " x;bars", 60);
-        goodLaw("counts " + repeated("1", 50, "+"));
-        badLaw("counts " + repeated("1", 51, "+"), 107);
-        badLaw("counts " + repeated("1", 50, "+") + ";counts arm", 114);
-        goodLaw("counts " + repeated("1", 49, "+") + ";counts arm");
-        goodLaw("counts " + repeated("[", 8, "") + "1" + repeated("]", 8, ""));
-        badLaw("counts " + repeated("[", 9, "") + "1" + repeated("]", 9, ""), 15);
-        goodLaw("bars if " + repeated("(", 8, "") + "1=1" + repeated(")", 8, ""));
-        badLaw("bars if " + repeated("(", 4, "") + repeated("[", 5, ""), 16);
-        goodLaw("bars if " + repeated("(", 4, "") + repeated("[", 4, "") + "1" + repeated("]", 4, "") + "=1"
-                + repeated(")", 4, ""));
-        goodLaw("counts " + repeated("[[[[[[[[1]]]]]]]]", 9, "+"));
-        goodLaw("bars if " + repeated("not", 90, " ") + " 1=1");
-        badLaw("bars if " + repeated("not", 98, " "), 399);
-        badLaw(repeated("(", 400, ""), 0);
-        badLaw("counts " + repeated("[", 393, ""), 15);
-        SeeSaws x = plank(3);
-        String fifty = "put " + repeated("at 0", 48, "+") + "+48 at 1 times 1";
+        goodLaw(Due.repeated("bars", 12, ";"));
+        badLaw(Due.repeated("bars", 13, ";"), 60);
+        badLaw(Due.repeated("bars", 12, ";") + "; nonsense", 61);
+        badLaw(Due.repeated("bars", 12, ";") + "; ", 61);
+        badLaw(Due.repeated("bars", 12, ";") + " x;bars", 60);
+        goodLaw("counts " + Due.repeated("1", 50, "+"));
+        badLaw("counts " + Due.repeated("1", 51, "+"), 107);
+        badLaw("counts " + Due.repeated("1", 50, "+") + ";counts arm", 114);
+        goodLaw("counts " + Due.repeated("1", 49, "+") + ";counts arm");
+        goodLaw("counts " + Due.repeated("[", 8, "") + "1" + Due.repeated("]", 8, ""));
+        badLaw("counts " + Due.repeated("[", 9, "") + "1" + Due.repeated("]", 9, ""), 15);
+        goodLaw("bars if " + Due.repeated("(", 8, "") + "1=1" + Due.repeated(")", 8, ""));
+        badLaw("bars if " + Due.repeated("(", 4, "") + Due.repeated("[", 5, ""), 16);
+        goodLaw("bars if " + Due.repeated("(", 4, "") + Due.repeated("[", 4, "") + "1" + Due.repeated("]", 4, "") + "=1"
+                + Due.repeated(")", 4, ""));
+        goodLaw("counts " + Due.repeated("[[[[[[[[1]]]]]]]]", 9, "+"));
+        goodLaw("bars if " + Due.repeated("not", 90, " ") + " 1=1");
+        badLaw("bars if " + Due.repeated("not", 98, " "), 399);
+        badLaw(Due.repeated("(", 400, ""), 0);
+        badLaw("counts " + Due.repeated("[", 393, ""), 15);
+        SeeSaws x = Due.plank(3);
+        String fifty = "put " + Due.repeated("at 0", 48, "+") + "+48 at 1 times 1";
         due("50 parts, C and TIMES aside", Due.orders(x, fifty), 1);
-        badOrders("put " + repeated("at 0", 50, "+") + " at 1", 257);
+        badOrders("put " + Due.repeated("at 0", 50, "+") + " at 1", 257);
     }
 
     private static void promise12Orders() {
-        SeeSaws x = plank(5, 4);
+        SeeSaws x = Due.plank(5, 4);
         due("12: empty", x.orders(), -6);
         due("12: blanks", Due.orders(x, "  "), -6);
         due("13: their end", x.fault(), 2);
@@ -259,7 +243,7 @@ public final class TextsTest {
     }
 
     private static void promise14Stopped() {
-        SeeSaws x = plank(5, 4);
+        SeeSaws x = Due.plank(5, 4);
         x.put(0, 1);
         due("12: can't be", Due.orders(x, "pass; pad 1 to 9; take 0; take 0; pass"), -3);
         due("14: the fourth", x.stopped(), 3);
@@ -315,10 +299,10 @@ public final class TextsTest {
         badOrders("take claim", 5);
         badOrders("counts 1", 0);
         badOrders("pass;;pass", 5);
-        badOrders(repeated("pass", 13, ";"), 60);
-        SeeSaws x = plank(3);
+        badOrders(Due.repeated("pass", 13, ";"), 60);
+        SeeSaws x = Due.plank(3);
         due("12: without blanks", Due.orders(x, "put 0at 5times 01if at 0<0;pass times 020"), 21);
-        due("12: twelve", Due.orders(x, repeated("pass", 12, ";")), 12);
+        due("12: twelve", Due.orders(x, Due.repeated("pass", 12, ";")), 12);
     }
 
     public static void main(String[] args) {
