@@ -138,6 +138,29 @@ public final class EdgesOfImagesTest {
         due("undo", x.undo(), 0);
     }
 
+    /** "all that it keeps is as it was then": KINDS and what was weighed, though others stood in their place since. */
+    private static void kindsAndWeighingsComeAgain() {
+        SeeSaws x = new SeeSaws();
+        x.image(0);
+        x.claim(5, 1);
+        x.claim(5, 2);
+        x.weighed(1, 2, 1);
+        x.image(1);
+        x.back(0);
+        x.claim(5, 3);
+        x.claim(5, 0);
+        x.weighed(2, 1, 0);
+        due("none is false", x.canBe(), 1 << 14);
+        x.back(1);
+        due("kinds", x.of(0, 1) * 10 + x.of(1, 1), 12);
+        due("0 more or 1 less", x.canBe(), 1 + 8);
+        x.forget();
+        x.weighed(0, 1, 1);
+        due("it can't be", x.canBe(), 0);
+        x.back(1);
+        due("0 more or 1 less", x.canBe(), 1 + 8);
+    }
+
     /** "(IMAGES stay)": behind back() to it and to the other one, and behind what is done since. */
     private static void imagesStay() {
         SeeSaws x = Due.plank(5);

@@ -95,6 +95,42 @@ public final class EdgesOfPaperTest {
         }
     }
 
+    /** Rows are sought on the side where they are: a low and a high CLAIM that may go to the right alone. */
+    private static void settleOneSide() {
+        SeeSaws high = Due.placed(2, 0, 1, 3, 1, 3, 1, 3, 2, 7);
+        Due.forced(high, "bars if place < 3");
+        due("claim 4 at 6", high.settle(NONE) * 10 + high.settle(4), 16);
+        SeeSaws low = Due.placed(2, 7, 1, 3, 1, 3, 1, 3, 2, 0);
+        Due.forced(low, "bars if place < 3");
+        due("claim 0 at 6", low.settle(NONE) * 10 + low.settle(0), 16);
+        due("least", low.least(NONE) * 10 + low.least(0), 6);
+        due("moved", low.moved(NONE) * 100 + low.moved(0) * 10 + low.moved(4), 173);
+    }
+
+    /** What was asked before does not matter: moved, settle, least one behind another. */
+    private static void rowsOneBehindAnother() {
+        SeeSaws x = Due.placed(1, 0, 1, 0, 1, 0, 1, 0, 1, 0, 1, 0, 1, 0);
+        x.terms(3, 1);
+        due("settle", x.settle(NONE), NONE);
+        Due.forced(x, "bars if place < 3 or place > 4");
+        due("21 by 3 or 4 each, but one: five", x.moved(NONE), 5);
+        due("settle", x.settle(NONE), NONE);
+        Due.forced(x, "bars if not place = 3");
+        due("21 by 3 each, but one: seven", x.moved(NONE) * 10 + x.moved(6), 73);
+        Due.forced(x, "bars if place < 2 or place > 3");
+        due("21 by 3 or 2 each, but one: seven", x.moved(NONE) * 10 + x.moved(0), 72);
+        due("least", x.least(NONE), 21);
+        for (int claim = 0; claim < 7; claim++) {
+            x.put(claim, 3);
+        }
+        due("moved", x.moved(NONE), 0);
+        due("settle", x.settle(NONE), 1);
+        x.take(0);
+        due("settle", x.settle(NONE), 2);
+        due("least", x.least(NONE) * 10 + x.least(0), 3);
+        due("moved", x.moved(NONE), 0);
+    }
+
     /** "(On paper, DAY as now:)": by the law at this DAY; nothing is put. */
     private static void settleByTheDay() {
         SeeSaws x = Due.plank(1, 1);
@@ -208,6 +244,8 @@ public final class EdgesOfPaperTest {
         due("all seven", Due.seven(30, 7).alone(), 127);
         SeeSaws x = Due.placed(1, 0, 1, 6, 5, 7);
         due("level now: in the middle", x.alone(), 4);
+        due("at 0 alone", Due.placed(1, 6, 1, 7).alone(), 2);
+        due("at 6 alone", Due.placed(1, 0, 1, 7).alone(), 2);
     }
 
     /** "at some PLACE where it is not BARRED, makes it LEVEL": by SLACK at most. */
@@ -380,6 +418,18 @@ public final class EdgesOfPaperTest {
         due("the middle one can be taken, and then none", x.byTurns(0) * 10 + x.byTurns(1), 10);
     }
 
+    /** What was asked before does not matter: off and byTurns one behind another. */
+    private static void offAndByTurns() {
+        SeeSaws x = Due.placed(30, 0);
+        due("off", x.off(NONE), 1);
+        due("byTurns", x.byTurns(0) * 10 + x.byTurns(1), 10);
+        due("off", x.off(NONE) * 10 + x.off(0), 10);
+        SeeSaws bare = new SeeSaws();
+        due("off", bare.off(NONE), 1);
+        due("byTurns", bare.byTurns(0), 0);
+        due("off", bare.off(NONE), 1);
+    }
+
     /** "NONE (others; who begins does not win)". */
     private static void byTurnsOthers() {
         SeeSaws x = Due.placed(30, 0);
@@ -514,6 +564,27 @@ public final class EdgesOfPaperTest {
         SeeSaws far = Due.plank(1, 30);
         due("none against 0, by which one of five comes otherwise",
                 far.weigh(0) * 100 + far.weigh(1) * 10 + far.weigh(2), 14);
+    }
+
+    /** "of all that it can be the most of which alike comes": by one more, by one less, alike ahead. */
+    private static void weighByOne() {
+        SeeSaws x = Due.plank(4, 4, 4);
+        x.weighed(1, 2, 1);
+        due("0 more or 1 less", x.canBe(), 1 + 8);
+        due("none against 0: 4 or 5 come alike; 0 against 2 tells them apart",
+                x.weigh(0) * 100 + x.weigh(1) * 10 + x.weigh(2), 141);
+        SeeSaws y = Due.plank(4, 5);
+        // Of five: 4 against 5 comes even by 0 more and by 1 less, else the right ones are more.
+        due("0 against 1", y.weigh(0) * 100 + y.weigh(1) * 10 + y.weigh(2), 123);
+        y.weighed(1, 2, 0);
+        due("0 more or 1 less: no weighing tells them apart", y.canBe(), 1 + 8);
+        due("none against none", y.weigh(0) * 100 + y.weigh(1) * 10 + y.weigh(2), 2);
+        SeeSaws z = Due.plank(5, 4);
+        due("0 against 1, the other way", z.weigh(0) * 100 + z.weigh(1) * 10 + z.weigh(2), 123);
+        SeeSaws last = Due.seven(4, 7);
+        last.weighed(64, 1, 1);
+        last.weighed(64, 2, 1);
+        due("6 more alone: none against none", last.weigh(0) * 100 + last.weigh(1) * 10 + last.weigh(2), 1);
     }
 
     /** "NONE (it can't be at all)"; no such what. */

@@ -194,6 +194,18 @@ public final class EdgesOfPlankTest {
         due("though barred", x.take(0), 0);
     }
 
+    /** Promises 16, 17: "TILT either way then": with the left side down, with the right side down. */
+    private static void putAndTakeTellEitherWay() {
+        SeeSaws x = Due.plank(5, 4);
+        due("left", x.put(0, 0), 15);
+        due("left still", x.put(1, 6), 3);
+        due("left", x.take(1), 15);
+        due("none", x.take(0), 0);
+        due("right", x.put(0, 6), 15);
+        due("right still", x.put(1, 0), 3);
+        due("right", x.take(1), 15);
+    }
+
     /** "To PAD: it is so HEAVY." ON or OFF, BARRED or not, up or down by one. */
     private static void padByOne() {
         SeeSaws x = Due.placed(29, 6, 2, 7);

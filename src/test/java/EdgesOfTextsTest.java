@@ -207,6 +207,24 @@ public final class EdgesOfTextsTest {
         due("the TAPE is empty then", x.count(6), 0);
     }
 
+    /** The last two of 400 bytes come, where all others are sawdust. */
+    private static void rowOf400TheLast() {
+        SeeSaws x = new SeeSaws();
+        for (int n = 0; n < 20; n++) {
+            x.feed(0, 0, 0, 0, 0x00001e03);
+        }
+        due("cut to 380", x.end(380), 380);
+        x.feed(0, 0, 0, 0, 0x00001d02);
+        due("seven come, not the last", x.row() * 1000 + x.sawdust(), 7193);
+        SeeSaws y = new SeeSaws();
+        for (int n = 0; n < 19; n++) {
+            y.feed(0, 0, 0, 0, 0);
+        }
+        due("400", y.feed(0, 0, 0, 0, 0x00001d02), 400);
+        due("the last comes", y.row() * 1000 + y.sawdust(), 1199);
+        due("29 of kind 2", y.of(0, 0) * 10 + y.of(0, 1), 292);
+    }
+
     /** Promise 10: "in the latest row() that was not REFUSED (0 ahead of any)". */
     private static void sawdustOfTheLatest() {
         SeeSaws x = new SeeSaws();
@@ -262,6 +280,53 @@ public final class EdgesOfTextsTest {
             lawFault((char) other + "bars", 0);
         }
         lawFault("  " + (char) 160, 2);
+    }
+
+    // ---- one TEXT behind another ----
+
+    /** PARTS and brackets are counted anew in each TEXT, behind a FAULT, too. */
+    private static void countedAnew() {
+        SeeSaws x = yard();
+        String fifty = "counts " + Due.repeated("1", 50, "+");
+        due("fifty", Due.law(x, fifty), 0);
+        due("fifty more", Due.law(x, fifty), 1);
+        due("a fault at the 51st", Due.law(x, fifty + "+1"), -6);
+        due("fifty behind it", Due.law(x, fifty), 2);
+        due("a fault in brackets", Due.law(x, "counts [[[[[[[[x"), -6);
+        due("eight behind it", Due.law(x, "counts [[[[[[[[1]]]]]]]]"), 3);
+        due("a fault at the 9th", Due.law(x, "bars if (((((((((1"), -6);
+        due("eight behind it", Due.law(x, "bars if ((((((((1=1))))))))"), 4);
+        due("twelve clauses", Due.orders(x, Due.repeated("pass", 12, ";")), 12);
+        due("twelve more", Due.orders(x, Due.repeated("pass", 12, ";")), 12);
+    }
+
+    /** Many long TEXTS are read one behind another. */
+    private static void manyTexts() {
+        SeeSaws x = yard();
+        String text = Due.repeated("pass if not 1=2 and 3=3 or 4=4", 8, ";");
+        for (int n = 0; n < 20; n++) {
+            due("orders " + n, Due.orders(x, text), 8);
+        }
+    }
+
+    /** Nothing of a TEXT is left for the next one: no CLAUSE, no "if", no TIMES. */
+    private static void nothingOfTheOneBefore() {
+        SeeSaws x = yard();
+        Due.law(x, "counts 1;bars;sheds 5;counts 2");
+        Due.forced(x, "counts 3");
+        due("counts 3", x.asks(0, 0, 0), 3);
+        due("not barred", x.asks(0, 0, 1), 0);
+        due("sheds nothing", x.of(0, 4), 0);
+        Due.law(x, "bars;bars;bars x");
+        Due.forced(x, "counts 4");
+        due("not barred", x.asks(0, 0, 1), 0);
+        Due.forced(x, "counts 5 if 1=2");
+        Due.forced(x, "counts 6");
+        due("without the if", x.asks(0, 0, 0), 6);
+        due("3 times", Due.orders(x, "pass times 3 if 1=1"), 3);
+        due("once", Due.orders(x, "pass"), 1);
+        due("never", Due.orders(x, "pass if 1=2"), 0);
+        due("once", Due.orders(x, "pass"), 1);
     }
 
     // ---- CLAUSES, PARTS, brackets ----
@@ -498,6 +563,9 @@ public final class EdgesOfTextsTest {
         goodLaw(times(" ", 396) + "bars");
         lawFault(times(" ", 395) + "bars;", 400);
         lawFault("bars" + times(" ", 395) + "x", 399);
+        lawFault("counts " + times(" ", 391) + "1+", 400);
+        lawFault("counts " + times("1", 393), 7);
+        lawFault(times("b", 400), 0);
         run(times(" ", 200) + "pass" + times(" ", 196), 1);
         SeeSaws x = Due.plank(1);
         Due.forced(x, times(" ", 391) + "counts 42");
@@ -520,6 +588,14 @@ public final class EdgesOfTextsTest {
         x.end(3);
         due("bar", x.law(), -6);
         due("at 0", x.fault(), 0);
+        Due.tape(x, "counts 1+2");
+        x.end(9);
+        due("counts 1+", x.law(), -6);
+        due("the end", x.fault(), 9);
+        Due.tape(x, "pass times 2");
+        x.end(11);
+        due("pass times", x.orders(), -6);
+        due("the end", x.fault(), 11);
     }
 
     // ---- BROKEN ----
@@ -595,6 +671,24 @@ public final class EdgesOfTextsTest {
         so("1=2 or 1=1 or 1/0=1", 1);
         so("1=2 and 1=1 and 1/0=1 or 1=1", 1);
         so("not (1=1 and 1=2 and 1/0=1)", 1);
+    }
+
+    /** "<" | ">" | "=": below, the same, above; turned by "not". */
+    private static void comparedAndTurned() {
+        String[] signs = {"<", ">", "="};
+        int[][] want = {{1, 0, 0}, {0, 1, 0}, {0, 0, 1}};
+        String[] twos = {"4%s5", "5%s4", "5%s5"};
+        for (int sign = 0; sign < 3; sign++) {
+            for (int two = 0; two < 3; two++) {
+                String test = twos[two].replace("%s", signs[sign]);
+                so(test, want[sign][two]);
+                so("not " + test, 1 - want[sign][two]);
+                so("not not " + test, want[sign][two]);
+            }
+        }
+        so("0-1<0", 1);
+        so("0>0-1", 1);
+        so("0-1=1", 0);
     }
 
     /** One that is asked first and is BROKEN breaks the whole, whatever stands behind. */
@@ -782,6 +876,7 @@ public final class EdgesOfTextsTest {
         SeeSaws x = yard();
         due("none at first", Due.orders(x, "put 1 at 6 if latest=0-1;pass if latest=6;take 1;pass if latest=6"), 4);
         due("none in the next TEXT", Due.orders(x, "pass if latest=0-1"), 1);
+        due("either way: left by 15", Due.orders(x, "pad 0 to 5;put 0 at 0;pass if latest=15"), 3);
         due("one that told 0", Due.orders(x, "take 0;put 0 at 3;pass if latest=0"), 3);
         x.put(1, 0);
         due("by put() itself, not in this TEXT", Due.orders(x, "pass if latest=0-1"), 1);
