@@ -109,6 +109,11 @@ public final class EdgesOfPaperTest {
 
     /** What was asked before does not matter: moved, settle, least one behind another. */
     private static void rowsOneBehindAnother() {
+        SeeSaws two = Due.placed(1, 0, 1, 7);
+        due("moved", two.moved(NONE) * 10 + two.moved(0), 13);
+        due("settle", two.settle(NONE) * 10 + two.settle(1), 16);
+        due("moved", two.moved(NONE) * 10 + two.moved(1), 17);
+        due("least", two.least(NONE) * 10 + two.least(1), 6);
         SeeSaws x = Due.placed(1, 0, 1, 0, 1, 0, 1, 0, 1, 0, 1, 0, 1, 0);
         x.terms(3, 1);
         due("settle", x.settle(NONE), NONE);

@@ -288,6 +288,16 @@ public final class EdgesOfPlankTest {
         due("DAY 1", x.count(13), 1);
     }
 
+    /** "An object is used for at most 512 calls": the 512th answers as the first ones do. */
+    private static void the512thCall() {
+        SeeSaws x = Due.plank(1);
+        for (int n = 2; n <= 510; n++) {
+            due("call " + n, x.pad(0, n % 2 == 0 ? 2 : 1), n % 2 == 0 ? 1 : 2);
+        }
+        due("call 511", x.undo(), 2);
+        due("call 512", x.of(0, 0), 1);
+    }
+
     /** Promise 2: "-1; -5": the first of them; a number that can't be is told though there is no room. */
     private static void claimMinus1AheadOfMinus5() {
         SeeSaws x = Due.seven(1, 7);

@@ -370,6 +370,16 @@ public final class EdgesOfTextsTest {
         lawFault("bars if " + Due.repeated("1=1", 25, " or ") + " or 1=1", 8 + 25 * 7);
     }
 
+    /** Of 25 comparisons, all that 50 PARTS can be, each is asked: the last alone decides. */
+    private static void fiftyPartsAreAsked() {
+        so(Due.repeated("1=2", 24, " or ") + " or 1=1", 1);
+        so(Due.repeated("1=2", 25, " or "), 0);
+        so(Due.repeated("1=1", 25, " and "), 1);
+        so(Due.repeated("1=1", 24, " and ") + " and 1=2", 0);
+        counts("counts " + Due.repeated("1", 50, "+"), 50);
+        counts("counts " + Due.repeated("[1", 8, "+") + times("]", 8) + "+" + Due.repeated("1", 42, "+"), 50);
+    }
+
     /** Brackets are no PARTS: fifty of them in brackets can be. */
     private static void bracketsAreNoParts() {
         goodLaw("counts " + Due.repeated("[1]", 50, "+"));

@@ -201,7 +201,13 @@ final class Model {
 
     int tilt(int what) {
         int t = tiltOf(s);
-        return what == 0 ? Math.abs(t) : what == 1 ? (t == 0 ? 0 : t < 0 ? 1 : 2) : what == 2 ? (level(s) ? 1 : 0) : NONE;
+        if (what == 0) {
+            return Math.abs(t);
+        }
+        if (what == 1) {
+            return t == 0 ? 0 : t < 0 ? 1 : 2;
+        }
+        return what == 2 ? (level(s) ? 1 : 0) : NONE;
     }
 
     int terms(int what, int value) {
