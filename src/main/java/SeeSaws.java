@@ -1593,7 +1593,12 @@ public final class SeeSaws {
         }
 
         private void closes(String bracket) {
-            expect(bracket);
+            // Not by expect: calls beside the recursion would go ten deep.
+            if (isToken(bracket)) {
+                advance();
+            } else {
+                fail();
+            }
             depth--;
         }
 
